@@ -38,7 +38,7 @@ final class Chunks {
     }
 
     /** A file of one DATA with the packed data. */
-    static byte[] file(byte[] head, byte[] packed) {
+    static byte[] whole(byte[] head, byte[] packed) {
         return file(head, chunk("IDAT", packed), LAST);
     }
 

@@ -299,7 +299,7 @@ final class Model {
         if (filter < 0 || filter > 5) {
             return -1;
         }
-        file = Chunks.file(Chunks.head(kind, depth, w, h, seven), packed(data(seven, filter)));
+        file = Chunks.whole(Chunks.head(kind, depth, w, h, seven), packed(data(seven, filter)));
         return file.length;
     }
 

@@ -133,7 +133,7 @@ public final class ModelTest {
             done += anyBlock(packed, data, done, RANDOM.nextInt(40) == 0);
         }
         packed.plain(true);
-        byte[] file = Chunks.file(Chunks.head(kind[0], kind[1], w, h, seven), packed.bytes());
+        byte[] file = Chunks.whole(Chunks.head(kind[0], kind[1], w, h, seven), packed.bytes());
         x = new SevenPassImage();
         m = new Model();
         name = "packed anyhow " + run;
