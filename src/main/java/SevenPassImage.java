@@ -433,7 +433,8 @@ public final class SevenPassImage {
 
         private int bestFilter() {
             int best = 0;
-            int least = Integer.MAX_VALUE;
+            // More than any sum, so that filter 0 is the best until another one is better.
+            int least = 256 * ROW_LIMIT;
             for (int filter = 0; filter < FILTERS; filter++) {
                 int sum = 0;
                 for (int k = 0; k < size; k++) {

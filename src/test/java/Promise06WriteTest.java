@@ -14,6 +14,7 @@ public final class Promise06WriteTest {
         passesWithoutPoints();
         packing();
         longCopies();
+        copiesOfEachLength();
         formerFileIsGone();
         Checks.end();
     }
@@ -149,6 +150,10 @@ public final class Promise06WriteTest {
         SevenPassImage t = grey(2, 3, 1, 4, 50);
         t.write(false, 4);
         dueData("b before c", t, 4, 3, 254, 4, 1, 49);
+        // Before the row's beginning a and c are 0, so b is taken, however small it is.
+        SevenPassImage edge = grey(1, 1, 9, 2, 9);
+        edge.write(false, 4);
+        dueData("b at the beginning", edge, 4, 1, 4, 8, 4, 249, 4, 7);
     }
 
     private static void leastSum() {
@@ -160,9 +165,28 @@ public final class Promise06WriteTest {
         Checks.due("rows 1", x.rows(1), 1);
         Checks.due("rows 2", x.rows(2), 1);
         // 128 has size 128 by every filter: the least filter is taken.
-        SevenPassImage y = grey(1, 128);
-        y.write(true, 5);
-        dueData("of several the least", y, 0, 128);
+        dueChosen("of several the least", grey(1, 128), 0, 128);
+        // By filter 0 the sizes are 1 and 1, by filter 1 they are 1 and 0.
+        dueChosen("255 is -1", grey(2, 255, 255), 1, 255, 0);
+        // The second row by filter 0: 255 of size 1; by filter 2: 1 of size 1.
+        dueChosen("1 and -1 are as great", grey(1, 254, 255), 0, 254, 0, 255);
+        // The second row by filter 0: 254 of size 2; by filter 2: 1 of size 1.
+        dueChosen("1 is less than -2", grey(1, 253, 254), 0, 253, 2, 1);
+        // The second row by filter 0: 5 and 0; by filter 2: 0 and 0.
+        dueChosen("the first byte counts", grey(2, 5, 0, 5, 0), 0, 5, 0, 2, 0, 0);
+        // The second row by filter 0: 129 of size 127; by filter 2: 126.
+        dueChosen("129 is -127", grey(1, 3, 129), 0, 3, 2, 126);
+        // The second row by filter 0: 130 of size 126; by filter 3: 129 of 127; by filter 2: 128.
+        dueChosen("130 is -126", grey(1, 2, 130), 0, 2, 0, 130);
+        leastOfAllFive();
+    }
+
+    private static void dueChosen(String what, SevenPassImage x, int... data) {
+        x.write(false, 5);
+        dueData(what, x, data);
+    }
+
+    private static void leastOfAllFive() {
         SevenPassImage z = grey(4, 8, 40, 20, 60, 10, 38, 24, 58);
         z.write(false, 5);
         int[] sums = new int[5];
@@ -276,6 +300,33 @@ public final class Promise06WriteTest {
         z.write(false, 0);
         duePacked("a copy of 11", z, new PackedData().block(true, 1).literals(0)
             .copy(265, 0, 1, 0, 0, 0).gives(11, 1), 1);
+    }
+
+    /** Pictures of zeros alone are one byte and one copy of as many as are left. */
+    private static void copiesOfEachLength() {
+        int[][] kinds = {{0, 8, 1}, {2, 8, 3}, {4, 8, 2}, {6, 8, 4}};
+        int[] least = {3, 4, 5, 6, 7, 8, 9, 10, 11, 13, 15, 17, 19, 23, 27, 31, 35, 43, 51, 59, 67,
+            83, 99, 115, 131, 163, 195, 227, 258};
+        for (int[] kind : kinds) {
+            for (int size = 0; size < 64; size++) {
+                int w = size % 8 + 1;
+                int h = size / 8 + 1;
+                int length = h * (1 + w * kind[2]) - 1;
+                if (length < 3 || length > 258) {
+                    continue;
+                }
+                int at = 0;
+                while (at + 1 < least.length && least[at + 1] <= length) {
+                    at++;
+                }
+                int bits = at < 8 || at == 28 ? 0 : at / 4 - 1;
+                SevenPassImage x = new SevenPassImage();
+                x.begin(kind[0], kind[1], w, h);
+                x.write(false, 0);
+                duePacked("a copy of " + length, x, new PackedData().block(true, 1).literals(0)
+                    .copy(257 + at, length - least[at], bits, 0, 0, 0).gives(length, 1), 1);
+            }
+        }
     }
 
     private static void formerFileIsGone() {

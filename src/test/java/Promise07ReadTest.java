@@ -26,6 +26,7 @@ public final class Promise07ReadTest {
         bitsLeftOver();
         filtersUndone();
         pictureStays();
+        readsInTurn();
         firstOfTheAnswers();
         Checks.end();
     }
@@ -252,6 +253,12 @@ public final class Promise07ReadTest {
             new PackedData().block(true, 2).literals(0, 5, 6, 7).end().bytes());
         duePacked("form 3", SevenPassImage.STREAM,
             new PackedData().block(true, 3).literals(0, 5, 6, 7).end().bytes());
+        for (int form = 2; form <= 3; form++) {
+            duePacked("form " + form + " behind all data", SevenPassImage.STREAM,
+                new PackedData().plain(false, 0, 5, 6, 7).block(true, form).bytes());
+            duePacked("form " + form + " before all data", SevenPassImage.STREAM,
+                new PackedData().block(false, form).plain(true, 0, 5, 6, 7).bytes());
+        }
     }
 
     /** Reads data that begin with 0 and the bytes, then a copy, then 0 up to 264 bytes in all. */
@@ -330,6 +337,14 @@ public final class Promise07ReadTest {
             duePacked("code " + code, SevenPassImage.STREAM, new PackedData().block(true, 1)
                 .literals(0, 5, 6, 7).highestFirst(code - 88, 8).highestFirst(0, 5).end().bytes());
         }
+        // The words of 286 and 287 with a bit behind them are no literals 140 .. 143 either.
+        for (int literal = 140; literal <= 143; literal++) {
+            byte[] packed = new PackedData().block(true, 1).literals(0, 5, 6)
+                .highestFirst(256 + literal, 9).end().withoutSum();
+            byte[] sum = PackedData.number(PackedData.sumOf(Chunks.bytes(0, 5, 6, literal)));
+            duePacked("nine bits of " + literal, SevenPassImage.STREAM,
+                PackedData.joined(packed, sum));
+        }
         for (int t = 4; t <= 31; t++) {
             int bits = t < 30 ? t / 2 - 1 : 0;
             duePacked("a distance too great, t " + t, SevenPassImage.STREAM, new PackedData()
@@ -363,6 +378,11 @@ public final class Promise07ReadTest {
             zeros(false, 40).end().plain(true, 0).bytes());
         duePacked("301 bytes, the last two plain", stream,
             zeros(false, 40).end().plain(true, 0, 0).bytes());
+        byte[] sumOf300 = PackedData.number(PackedData.sumOf(new byte[300]));
+        duePacked("301 bytes with the sum of 300", stream,
+            PackedData.joined(zeros(true, 42).end().withoutSum(), sumOf300));
+        duePacked("301 bytes, the last two plain, with the sum of 300", stream,
+            PackedData.joined(zeros(false, 40).end().plain(true, 0, 0).withoutSum(), sumOf300));
     }
 
     /** A block of 259 bytes 0, and of 35 to 42 more by one copy. */
@@ -459,6 +479,37 @@ public final class Promise07ReadTest {
             Checks.due("rows of filter 4", x.rows(4), 0);
             Checks.due("copies", x.copies(), copies);
             Checks.due("length", x.length(), wrong[i].length);
+        }
+    }
+
+    /** What one read met leaves no trace in the next one. */
+    private static void readsInTurn() {
+        byte[] right = Chunks.file(HEAD, DATA, LAST);
+        byte[][] wrong = {
+            Chunks.file(HEAD, LAST),
+            Chunks.file(Chunks.chunk("IHDR"), DATA, LAST),
+            Chunks.file(HEAD, DATA, Chunks.chunk("IEND", 7)),
+            Chunks.whole(HEAD, Arrays.copyOf(PACKED, 2)),
+            Chunks.whole(HEAD, Arrays.copyOf(PACKED, 9)),
+            Chunks.whole(HEAD, new PackedData().block(true, 1).literals(0, 5).withoutSum()),
+            Chunks.whole(HEAD, new PackedData().block(true, 2).bytes()),
+            Chunks.whole(HEAD, new PackedData().block(true, 1).copy(257, 0, 0, 0, 0, 0).bytes()),
+            Chunks.whole(HEAD, zeros(true, 42).end().bytes()),
+            Chunks.whole(HEAD, new PackedData().plain(true, 5, 5, 6, 7).bytes())};
+        int[] answers = {-2, -3, -3, -4, -4, -4, -4, -4, -4, -5};
+        for (int i = 0; i < wrong.length; i++) {
+            SevenPassImage x = Chunks.holding(wrong[i]);
+            Checks.due("wrong file " + i, x.read(), answers[i]);
+            x.trim(0);
+            Chunks.fill(x, right);
+            Checks.due("the right one behind wrong file " + i, x.read(), 0);
+            Checks.due("get", x.get(1, 0, 0), 6);
+            Checks.due("write", x.write(true, 4) > 0, true);
+            Checks.due("read of what was written", x.read(), 0);
+            x.trim(0);
+            Chunks.fill(x, wrong[i]);
+            Checks.due("wrong file " + i + " again", x.read(), answers[i]);
+            Checks.due("get", x.get(2, 0, 0), 7);
         }
     }
 

@@ -70,6 +70,13 @@ public final class Promise13SealTest {
             new byte[16]));
         Checks.due("seal of 8 bytes", x.seal(0), true);
         dueBytes("8 bytes", x, Chunks.chunk("\0\0\0\0", new byte[8]));
+        for (int before = 1; before <= 6; before++) {
+            byte[] file = PackedData.joined(new byte[before], Chunks.bytes(0, 0, 0, 9),
+                new byte[16]);
+            SevenPassImage y = Chunks.holding(file);
+            Checks.due("seal of 9 bytes where 8 are", y.seal(before), false);
+            dueBytes("9 bytes where 8 are", y, file);
+        }
     }
 
     private static void wrongPlaces() {
