@@ -211,15 +211,7 @@ public final class Promise07ReadTest {
             .block(false, 1).literals(6).end().plain(true, 7).bytes());
         duePacked("coded last", 0, new PackedData().plain(false, 0, 5).block(false, 1).end()
             .block(true, 1).literals(6, 7).end().bytes());
-        // Three, then ten and three bits, .. until a block's form ends with a byte.
-        PackedData many = new PackedData();
-        for (int i = 0; i < 8; i++) {
-            many.block(false, 1).end();
-        }
-        duePacked("many empty blocks", 0, many.plain(true, 0, 5, 6, 7).bytes());
-        PackedData whole = new PackedData().block(false, 1).literals(0).end();
-        whole.block(false, 1).end().block(false, 1).end().block(false, 1).end();
-        duePacked("forms anywhere in a byte", 0, whole.plain(true, 5, 6, 7).bytes());
+        formsAnywhere();
         for (int i = 0; i < 16; i++) {
             PackedData wrong = new PackedData().block(true, 0).fillByte().lowestFirst(4, 16)
                 .lowestFirst(65531 ^ 1 << i, 16);
@@ -230,6 +222,30 @@ public final class Promise07ReadTest {
         duePacked("a great n", SevenPassImage.STREAM, PackedData.joined(new PackedData()
             .block(true, 0).fillByte().lowestFirst(65535, 16).lowestFirst(0, 16).withoutSum(),
             new byte[100]));
+    }
+
+    /** A block of form 0 behind any number of bits of a byte, and just behind a whole one. */
+    private static void formsAnywhere() {
+        boolean[] met = new boolean[8];
+        for (int nines = 0; nines < 2; nines++) {
+            for (int empties = 0; empties < 8; empties++) {
+                PackedData packed = new PackedData().fillWith('1').block(false, 1);
+                packed.literals(0, nines == 0 ? 100 : 200).end();
+                for (int i = 0; i < empties; i++) {
+                    packed.block(false, 1).end();
+                }
+                met[(3 + 8 + 8 + nines + 7 + 10 * empties + 3) % 8] = true;
+                SevenPassImage x = Chunks.holding(Chunks.whole(HEAD,
+                    packed.plain(true, 6, 7).bytes()));
+                Checks.due("form 0 behind " + empties + " empty blocks", x.read(), 0);
+                Checks.due("column 0", x.get(0, 0, 0), nines == 0 ? 100 : 200);
+                Checks.due("column 1", x.get(1, 0, 0), 6);
+                Checks.due("column 2", x.get(2, 0, 0), 7);
+            }
+        }
+        for (int bit = 0; bit < 8; bit++) {
+            Checks.due("a form that ends behind bit " + bit, met[bit], true);
+        }
     }
 
     private static void codeBlocks() {
