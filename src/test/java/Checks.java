@@ -18,6 +18,14 @@ final class Checks {
         due(what, got ? 1L : 0L, want ? 1L : 0L);
     }
 
+    static void due(String what, String got, String want) {
+        done++;
+        if (!got.equals(want)) {
+            wrong++;
+            System.out.println(what + " answered [" + got + "], due is [" + want + "]");
+        }
+    }
+
     static void end() {
         if (wrong != 0 || done == 0) {
             System.out.println(wrong + " of " + done + " answers are not as due");

@@ -91,6 +91,11 @@ final class PackedData {
         return this;
     }
 
+    /** How many bits stand in the last byte; 0 when it is full. */
+    int bitsInLastByte() {
+        return bits.length() % 8;
+    }
+
     byte[] data() {
         return data.toByteArray();
     }

@@ -19,29 +19,9 @@ public final class Promise11AppendTest {
         Checks.due("byte 1", x.byteAt(1), 255);
     }
 
-    /**
-     * A short file of a picture whose written file is long, so that 512 calls are enough to fill
-     * it up: each row is the one above it plus the first one.
-     */
-    private static byte[] shortFile() {
-        PackedData packed = new PackedData().block(true, 1);
-        int[] row = new int[33];
-        row[0] = 2;
-        for (int k = 1; k < row.length; k++) {
-            row[k] = (k * k * 11 + k * 3) % 256;
-        }
-        packed.literals(row).copy(284, 4, 5, 10, 0, 4).gives(231, 33).end();
-        return Chunks.whole(Chunks.head(6, 8, 8, 8, false), packed.bytes());
-    }
-
     private static void fullFile() {
-        SevenPassImage x = Chunks.holding(shortFile());
-        Checks.due("read", x.read(), 0);
-        int length = x.write(false, 0);
-        Checks.due("a long file of " + length, length > 330 && length < 700, true);
-        for (int k = length; k < 700; k++) {
-            Checks.due("append as byte " + k, x.append(k % 256), true);
-        }
+        SevenPassImage x = new SevenPassImage();
+        int length = FullFile.fill(x, 700);
         Checks.due("length", x.length(), 700);
         Checks.due("append as byte 700", x.append(1), false);
         Checks.due("length", x.length(), 700);
