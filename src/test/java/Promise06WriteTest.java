@@ -8,6 +8,7 @@ public final class Promise06WriteTest {
         filters();
         leastSum();
         sizesOfBytes();
+        greatSums();
         severalLeastSums();
         pictureStays();
         sevenPasses();
@@ -118,6 +119,25 @@ public final class Promise06WriteTest {
         dueChosen("0 by filter 3", Pictures.grey(1, 255, 127), 0, 255, 3, 0);
         dueChosen("0 and 0 by filter 4", Pictures.grey(3, 10, 10, 10, 10, 60, 60),
             1, 10, 0, 0, 4, 0, 50, 0);
+    }
+
+    /** The greatest sums that there are: 32 bytes of size 128 by filter 0, four by filter 1. */
+    private static void greatSums() {
+        int[] samples = new int[64];
+        Arrays.fill(samples, 128);
+        for (int k = 0; k < 32; k += 2) {
+            samples[32 + k] = 0;
+        }
+        SevenPassImage x = Pictures.of(6, 8, 8, samples);
+        x.write(false, 5);
+        int[] want = new int[66];
+        want[0] = 1;
+        Arrays.fill(want, 1, 5, 128);
+        // By filter 1 the second row is 0, 128, 0, 128 and then 0; by filter 2 half of it is 128.
+        want[33] = 1;
+        want[35] = 128;
+        want[37] = 128;
+        Written.dueData("the least of great sums", x, want);
     }
 
     /**

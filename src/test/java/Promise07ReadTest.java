@@ -245,8 +245,10 @@ public final class Promise07ReadTest {
         byte[][] wrong = {
             flawed(4, 0, 0, 0), flawed(7, 0, 0, 0), flawed(0, 1, 0, 0), flawed(0, 10, 0, 0),
             flawed(0, 0, 2, 0), flawed(0, 0, 4, 0), flawed(0, 0, 7, 0), flawed(0, 0, 9, 0),
-            flawed(0, 0, 10, 0), flawed(0, 0, 0, 1), flawed(0, 0, 0, 2), flawed(0, 0, 0, 4)};
-        int[] answers = {-2, -2, -3, -3, -4, -4, -4, -4, -4, -5, -5, -5};
+            flawed(0, 0, 10, 0), flawed(0, 0, 0, 1), flawed(0, 0, 0, 2), flawed(0, 0, 0, 4),
+            Chunks.whole(HEAD, Arrays.copyOf(PACKED, 9)),
+            Chunks.whole(HEAD, new PackedData().block(true, 1).literals(0, 5).withoutSum())};
+        int[] answers = {-2, -2, -3, -3, -4, -4, -4, -4, -4, -5, -5, -5, -4, -4};
         for (int i = 0; i < wrong.length; i++) {
             SevenPassImage x = Chunks.holding(wrong[i]);
             Checks.due("wrong file " + i, x.read(), answers[i]);

@@ -275,10 +275,16 @@ public final class TermsBlockTest {
                 PackedData.sumOf(new byte[7])));
         }
         for (int t = 30; t < 32; t++) {
-            for (int bits = 0; bits <= 14; bits += 7) {
-                due("t " + t + " with " + bits + " bits", STREAM, withSum(new PackedData()
-                    .block(true, 1).literals(0).copy(257, 0, 0, t, 0, bits).end(),
-                    PackedData.sumOf(new byte[4])));
+            // Whether such a copy gave bytes or none, the sum would be right.
+            for (int length : new int[] {3, 0}) {
+                for (int bits = 0; bits <= 14; bits += 7) {
+                    due("t " + t + " with " + bits + " bits", STREAM, withSum(new PackedData()
+                        .block(true, 1).literals(0).copy(257, 0, 0, t, 0, bits).end(),
+                        PackedData.sumOf(new byte[1 + length])));
+                    due("t " + t + " behind all data", STREAM, withSum(new PackedData()
+                        .block(true, 1).literals(0, 5, 6, 7).copy(257, 0, 0, t, 0, bits).end(),
+                        SUM));
+                }
             }
         }
     }
@@ -297,6 +303,12 @@ public final class TermsBlockTest {
                 int want = d > n ? STREAM : n == 1 ? 0 : ROWS;
                 int answer = Chunks.read(Chunks.whole(HEAD, packed));
                 Checks.due("distance " + d + " behind " + n + " bytes", answer, want);
+                if (d > n) {
+                    System.arraycopy(PackedData.number(PackedData.sumOf(new byte[n])), 0, packed,
+                        packed.length - 4, 4);
+                    Checks.due("distance " + d + " behind " + n + " bytes, no bytes of it",
+                        Chunks.read(Chunks.whole(HEAD, packed)), STREAM);
+                }
             }
         }
     }

@@ -63,7 +63,7 @@ public final class TermsFileTest {
         Checks.due("byteAt 699", x.byteAt(699), 22);
     }
 
-    /** All 700 bytes, the picture and the counts behind calls that a full file refuses. */
+    /** "false, changing nothing, when .. 700 are there": all bytes, the picture and the counts. */
     private static void nothingChangesInAFullFile() {
         byte[] before = Written.file(x -> FullFile.fill(x, 700), FullFile.CALLS);
         byte[] after = Written.file(x -> {
@@ -79,13 +79,18 @@ public final class TermsFileTest {
         Checks.due("all bytes", Arrays.toString(after), Arrays.toString(before));
         SevenPassImage x = new SevenPassImage();
         int written = FullFile.fill(x, 700);
-        x.append(1);
-        x.read();
+        String counts = State.counts(x);
+        Checks.due("append", x.append(1), false);
+        Checks.due("the counts", State.counts(x), counts);
         Checks.due("shape", x.shape(), 6080808);
-        Checks.due("get", x.get(7, 7, 3), 8 * ((32 * 32 * 11 + 32 * 3) % 256) % 256);
-        Checks.due("rows 0", x.rows(0), 8);
-        Checks.due("rows 2", x.rows(2), 0);
+        for (int c = 0; c < 4; c++) {
+            // The last row is eight times the first one, whose byte k is 11 k k + 3 k.
+            int k = 29 + c;
+            Checks.due("get", x.get(7, 7, c), 8 * (11 * k * k + 3 * k) % 256);
+            Checks.due("get", x.get(7, 0, c), (11 * k * k + 3 * k) % 256);
+        }
         Checks.due("write", x.write(false, 0), written);
+        Checks.due("length", x.length(), written);
     }
 
     /** A right file of just 700 bytes, with an other chunk in it that takes what is left. */
