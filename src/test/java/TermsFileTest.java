@@ -83,14 +83,23 @@ public final class TermsFileTest {
         Checks.due("append", x.append(1), false);
         Checks.due("the counts", State.counts(x), counts);
         Checks.due("shape", x.shape(), 6080808);
-        for (int c = 0; c < 4; c++) {
-            // The last row is eight times the first one, whose byte k is 11 k k + 3 k.
-            int k = 29 + c;
-            Checks.due("get", x.get(7, 7, c), 8 * (11 * k * k + 3 * k) % 256);
-            Checks.due("get", x.get(7, 0, c), (11 * k * k + 3 * k) % 256);
-        }
         Checks.due("write", x.write(false, 0), written);
         Checks.due("length", x.length(), written);
+        for (int row = 0; row < 8; row++) {
+            samplesOfAFullFile(row);
+        }
+    }
+
+    /** One row for each object, as all samples would be too many calls for one. */
+    private static void samplesOfAFullFile(int row) {
+        SevenPassImage x = new SevenPassImage();
+        FullFile.fill(x, 700);
+        Checks.due("append", x.append(1), false);
+        for (int k = 1; k <= 32; k++) {
+            // Byte k of the first row is 11 k k + 3 k, and each row adds as much.
+            Checks.due("get", x.get((k - 1) / 4, row, (k - 1) % 4),
+                (row + 1) * (11 * k * k + 3 * k) % 256);
+        }
     }
 
     /** A right file of just 700 bytes, with an other chunk in it that takes what is left. */
